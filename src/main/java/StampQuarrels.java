@@ -1284,7 +1284,7 @@ public final class StampQuarrels {
             return together;
         }
 
-        /** As the last CLAUSE of the kind that HOLDS tells, from 0 to the most. */
+        /** As the last CLAUSE of the kind that HOLDS tells, from 0 to the most; right is NONE if one is asked. */
         private int told(int kind, int left, int right, int without, int most) {
             int force = state.force;
             if (force < 0 || force >= state.laws) {
@@ -1294,7 +1294,14 @@ public final class StampQuarrels {
             if (law == null) {
                 return without;
             }
-            face(left, right);
+            facts[TEMPER] = state.temper[left];
+            facts[IRE] = right == NONE ? NONE : state.temper[right];
+            facts[REALM] = state.realm[left];
+            facts[LAND] = right == NONE ? NONE : state.realm[right];
+            facts[WORTH] = state.worth[left];
+            facts[GLUE] = board.glueOf(left);
+            facts[DAY] = board.today();
+            facts[MOOD] = state.mood;
             for (int c = law.clauses - 1; c >= 0; c--) {
                 if (law.kind[c] != kind) {
                     continue;
@@ -1309,17 +1316,6 @@ public final class StampQuarrels {
                 }
             }
             return without;
-        }
-
-        private void face(int left, int right) {
-            facts[TEMPER] = state.temper[left];
-            facts[IRE] = right == NONE ? NONE : state.temper[right];
-            facts[REALM] = state.realm[left];
-            facts[LAND] = right == NONE ? NONE : state.realm[right];
-            facts[WORTH] = state.worth[left];
-            facts[GLUE] = board.glueOf(left);
-            facts[DAY] = board.today();
-            facts[MOOD] = state.mood;
         }
     }
 
