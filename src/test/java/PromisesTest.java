@@ -86,6 +86,7 @@ public final class PromisesTest {
         undoLimits();
         makingUp();
         buffering();
+        bufferingByTheFirst();
         exchanging();
         pocketing();
         hearing();
@@ -177,6 +178,22 @@ public final class PromisesTest {
         due("5: an empty one", x.at(1, 5), -1);
         x.cancel(0);
         due("5: LATE", x.at(0, 4), 11);
+        due("5: LATE of another", x.at(1, 4), 0);
+        x = new StampQuarrels();
+        for (int i = 0; i < 9; i++) {
+            x.stamp(1, i % 3, i, 9);
+        }
+        for (int i = 0; i < 3; i++) {
+            x.letter(i);
+            x.stick(2 * i, i);
+            x.stick(2 * i + 1, i);
+        }
+        due("5: first", x.cancel(0), 1);
+        due("5: second", x.cancel(1), 5);
+        due("5: third", x.cancel(2), 9);
+        due("5: LATE 0", x.at(0, 4), 1);
+        due("5: LATE 1", x.at(1, 4), 5);
+        due("5: LATE 2", x.at(2, 4), 9);
     }
 
     private static void asking() {
@@ -259,6 +276,9 @@ public final class PromisesTest {
         write(x, times(12, good, ""));
         due("10: no room for all", x.row(), 8);
         due("11: no room is a misprint", x.misprints(), 4);
+        StampQuarrels y = write(new StampQuarrels(), good);
+        due("10: just four bytes", y.row(), 1);
+        due("11: none", y.misprints(), 0);
         write(x, good);
         due("10: none came, not refused", x.row(), 0);
         due("10: status", x.status(), 0);
@@ -283,6 +303,17 @@ public final class PromisesTest {
                 due("14: at the end behind ;", x.fault(), 5);
             }
         }
+        StampQuarrels y = new StampQuarrels();
+        for (int i = 0; i < 6; i++) {
+            write(y, "peel " + times(40, "paid 0", "+") + " times 20 if 1=2");
+            due("13: many texts", y.orders(), 0);
+            write(y, "counts 9-" + times(45, "1", "+") + ";dries " + i);
+            due("12: many texts", y.law(), i);
+        }
+        y.stamp(3, 0, 0, 0);
+        y.force(3);
+        due("12: of many texts", y.of(0, 8), 3);
+        due("12: of many texts, all of it", y.of(0, 7), 52);
         write(x, "x");
         due("12: no room ahead of reading", x.law(), -5);
         due("14: nothing was read", x.fault(), -1);
@@ -374,6 +405,12 @@ public final class PromisesTest {
         due("14: 9 of both kinds", faultOfLaw("bars if ((((([[[[1]]]]=1)))))"), 16);
         due("14: 9 round ones", faultOfLaw("bars if " + times(9, "(", "") + "1=1" + times(9, ")", "")), 16);
         due("14: side by side", faultOfLaw("counts " + times(12, "[1]", "+")), -1);
+        due("14: a longer word", faultOfLaw("barsz"), 0);
+        due("14: a longer word, a", faultOfLaw("abars"), 0);
+        due("14: a whole tape", faultOfLaw(times(99, "    ", "") + "bars"), -1);
+        due("14: a whole tape, blanks behind", faultOfLaw("bars" + times(99, "    ", "")), -1);
+        due("14: a whole tape, not ended", faultOfLaw(times(99, "    ", "") + "   x"), 399);
+        due("14: a whole tape of nots", faultOfLaw("bars if " + times(98, "not ", "")), 400);
         due("14: many nots", faultOfLaw("bars if " + times(90, "not ", "") + "1=1"), -1);
         due("12: many nots", lawful(counter(), "bars if " + times(91, "not ", "") + "1=1").asks(0, 1, 1), 0);
         due("12: many nots, even", lawful(counter(), "bars if " + times(92, "not ", "") + "1=1").asks(0, 1, 1), 1);
@@ -447,6 +484,11 @@ public final class PromisesTest {
         due("13: words of letters and stamps", x.orders(), 7);
         due("13: the days", x.count(13), 7);
         x = counter();
+        x.terms(0, 50);
+        write(x, "pass times 20 if day<53;pass if done=4;stick 3 on 0 if spot 3=0-1;stick 4 on 0 if spot 3=0;stick 1 on 0 if spot 4=1 and free=3");
+        due("13: day is not done", x.orders(), 6);
+        due("13: spots as they are then", x.at(0, 7), 1);
+        x = counter();
         write(x, "pass times 4 if done%2=0");
         due("13: done counts what was run", x.orders(), 1);
         x = lawful(counter(), "counts worth+day;quarrels day");
@@ -517,6 +559,11 @@ public final class PromisesTest {
         due("17: the other way is not", x.stick(3, 1), 1);
         x.stick(1, 0);
         due("17: behind it", x.stick(4, 0), 1);
+        lawful(x, "bars if realm=2");
+        due("17: only the last one matters", x.stick(2, 1), -3);
+        x.peel(1);
+        lawful(x, "bars if realm=1");
+        due("17: not the one ahead of it", x.stick(3, 0), 2);
     }
 
     private static void peelingAndCancelling() {
@@ -562,6 +609,7 @@ public final class PromisesTest {
         x.stick(1, 0);
         due("20: one falls", x.pass(), 1);
         due("20: the others move up", x.at(0, 6), 1);
+        due("20: two are left", x.at(0, 1), 2);
         due("20: in the sheet", x.of(2, 4), -1);
         due("20: dry", x.of(2, 3), 0);
         due("20: in the sheet it dries, too", x.of(4, 3), 4);
@@ -664,7 +712,10 @@ public final class PromisesTest {
         for (int i = 0; i < 15; i++) {
             x.undo();
         }
+        due("21: the days are undone", x.count(13), 0);
+        due("21: on it", x.of(0, 4), 0);
         due("21: all sixteen stay behind them", x.undo(), 0);
+        due("21: the stick is undone", x.of(0, 4), -1);
     }
 
     private static void makingUp() {
@@ -710,6 +761,12 @@ public final class PromisesTest {
         due("22: as they count", x.madeUp(1, 0), 0);
         due("22: as they count, row", x.madeUp(1, 2), 0);
         x = new StampQuarrels();
+        x.stamp(7, 0, 0, 1);
+        x.letter(7);
+        due("22: of one alone", x.madeUp(0, 2), 0);
+        x.letter(14);
+        due("22: each once", x.madeUp(1, 0), -1);
+        x = new StampQuarrels();
         for (int i = 0; i < 10; i++) {
             x.stamp(1, 0, 0, 9);
         }
@@ -754,9 +811,31 @@ public final class PromisesTest {
         lawful(x, "quarrels temper*ire;quarrels 1 if realm=1 and not land=3");
         due("23: takes another so that all can", x.buffers(0, 0), 4);
         due("23: so that all can", x.buffers(0, 1), 3);
+        lawful(x, "quarrels 0;quarrels temper*ire if realm=1");
+        due("23: one gap of two", x.buffers(0, -1), 1);
+        due("23: the gap that needs one", x.buffers(0, 0), 3);
         x.stick(3, 0);
         x.stick(4, 0);
-        due("23: five and more, on paper; from the sheet alone", x.buffers(0, -1), -1);
+        due("23: a sixth, on paper", x.buffers(0, 0), 6);
+        x.force(0);
+        due("23: from the sheet alone", x.buffers(0, -1), -1);
+    }
+
+    private static void bufferingByTheFirst() {
+        StampQuarrels x = new StampQuarrels();
+        x.stamp(1, 0, 0, 1);
+        x.stamp(1, 1, 4, 9);
+        x.stamp(1, 2, 5, 9);
+        x.letter(9);
+        x.stick(1, 0);
+        x.stick(2, 0);
+        lawful(x, "quarrels temper*ire");
+        due("23: stamp 0 with a little glue", x.buffers(0, 0), 0);
+        x.stick(0, 0);
+        due("23: gaps without quarrel need none", x.buffers(0, -1), -1);
+        x.stamp(1, 3, 0, 1);
+        due("23: one gap of two needs one", x.buffers(0, -1), 1);
+        due("23: the one in the sheet", x.buffers(0, 0), 3);
     }
 
     private static void exchanging() {
@@ -778,6 +857,11 @@ public final class PromisesTest {
         due("24: on paper", x.at(0, 6), 1);
         lawful(x, "bars");
         due("24: barred aside", x.exchanged(0, 1), 9);
+        lawful(x, "quarrels 0;quarrels 5 if temper=2 and ire=0");
+        due("24: of alike the lowest", x.exchanged(0, 0), 2);
+        due("24: no quarrel", x.exchanged(0, 1), 0);
+        lawful(x, "quarrels 5;quarrels 0 if temper=3 and ire=2;quarrels 0 if temper=2 and ire=4;quarrels 0 if temper=4 and ire=0");
+        due("24: above 9", x.exchanged(0, 0), 12);
         lawful(x, "quarrels temper-ire");
         due("24: by the law", x.exchanged(0, 0), 3);
         due("24: by the law, then", x.exchanged(0, 1), 2);
@@ -806,7 +890,7 @@ public final class PromisesTest {
         lawful(x, "quarrels 1");
         due("25: ten", x.pockets(0), 10);
         due("25: the last", x.pockets(10), 9);
-        lawful(x, "quarrels 0;quarrels 1 if [temper+ire]%2=1 and not temper+ire=9");
+        lawful(x, "quarrels 0;quarrels 1 if [temper+ire]%2=1 and not temper/2=ire/2");
         due("25: two, not as they come", x.pockets(0), 2);
         due("25: even", x.pockets(9), 0);
         due("25: odd", x.pockets(10), 1);
@@ -816,6 +900,8 @@ public final class PromisesTest {
         StampQuarrels x = counter();
         due("26: too much", x.hear(0, 21), -1);
         due("26: below", x.hear(0, -1), -1);
+        due("26: the most", x.hear(0, 20), 1);
+        x.forget();
         due("26: no such", x.hear(5, 0), -2);
         due("26: no such below", x.hear(-1, 0), -2);
         due("26: wrong number first", x.hear(5, 21), -1);
@@ -852,6 +938,10 @@ public final class PromisesTest {
         x.hear(3, 4);
         due("29: none can be", x.beside(0), -1);
         due("29: none can be, at most", x.beside(1), -1);
+        x.forget();
+        lawful(x, "quarrels 20");
+        due("29: alike by 20", x.beside(1), 4);
+        due("29: alike by 20, once more", x.beside(1), 4);
         x = new StampQuarrels();
         due("29: no stamps", x.beside(0), -1);
         for (int i = 0; i < 4; i++) {
@@ -892,7 +982,10 @@ public final class PromisesTest {
         due("31: fee below", x.fewest(-1, 1), -1);
         due("31: fee above", x.fewest(61, 1), -1);
         due("31: sorts below", x.fewest(1, -1), -1);
-        due("31: sorts above", x.fewest(1, 1024), -1);
+        due("31: sorts above", x.fewest(0, 1024), -1);
+        due("31: all sorts", x.fewest(0, 1023), 0);
+        due("31: a later sort is better", x.fewest(2, 3), 1);
+        due("31: a later sort is worse", x.fewest(2, 2 + 8), 1);
         x.letter(1);
         x.stick(0, 0);
         x.cancel(0);
@@ -903,6 +996,12 @@ public final class PromisesTest {
         due("31: as they count", x.fewest(9, 1023), 1);
         due("31: one that counts for 0", x.fewest(3, 1), -1);
         due("30: can't be", lawful(x, "counts 2").sorts(2, 0), -1);
+        x = new StampQuarrels();
+        x.stamp(1, 0, 0, 9);
+        x.stamp(6, 0, 0, 9);
+        due("30: all are needed", x.sorts(6, 1), 3);
+        due("30: six at 11", x.sorts(11, 0), -1);
+        due("30: five at 10", x.sorts(10, 0), 2);
     }
 
     private static void holding() {
@@ -942,6 +1041,7 @@ public final class PromisesTest {
         due("34: a law", x.compare(0), 2);
         x.force(0);
         due("34: in place of that in force", x.compare(-1), 9);
+        due("34: force stays", x.count(12), 0);
         due("34: that in force", x.compare(0), 2);
         due("34: force stays", x.count(12), 0);
         due("34: no such", x.compare(1), -1);
@@ -1075,6 +1175,33 @@ public final class PromisesTest {
         x.pass();
         x.back(0);
         due("38: images stay as they were", x.of(0, 3), 9);
+        due("38: the pass can't be undone", x.undo(), -3);
+        x = new StampQuarrels();
+        x.image(0);
+        x.stamp(1, 2, 3, 4);
+        x.letter(5);
+        x.hear(0, 6);
+        x.image(1);
+        x.back(0);
+        x.stamp(7, 1, 8, 6);
+        x.letter(9);
+        x.hear(0, 10);
+        x.back(1);
+        int[] stamp = {1, 2, 3, 4};
+        for (int what = 0; what < stamp.length; what++) {
+            due("38: of(0, " + what + ")", x.of(0, what), stamp[what]);
+        }
+        due("38: fee", x.at(0, 0), 5);
+        x.stamp(1, 1, 3, 1);
+        due("38: what was heard", x.canBe(), 2);
+        x.stamp(1, 1, 1, 1);
+        x.image(1);
+        x.back(0);
+        x.stamp(1, 1, 1, 1);
+        x.stamp(1, 1, 1, 1);
+        x.hear(1, 6);
+        x.back(1);
+        due("38: beside whom it was heard", x.canBe(), 2);
     }
 
     private static void imagesOfLaws() {
