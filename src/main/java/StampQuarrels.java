@@ -1592,6 +1592,7 @@ public final class StampQuarrels {
         private final int[] least;
         private int opened;
         private int due;
+        private int leastOfTwo;
         int leastQuarrel;
         int bestSize;
         final int[] best;
@@ -1622,18 +1623,10 @@ public final class StampQuarrels {
             leastQuarrel = NONE;
             findOpen();
             findReach();
-            if (!canReach(fee, MOST_SPOTS)) {
+            if (stillNeeded(fee, MOST_SPOTS) == NONE) {
                 return false;
             }
-            for (int i = 0; i < opened; i++) {
-                for (int k = 0; k < opened; k++) {
-                    if (i != k) {
-                        int two = open[i] * MOST_STAMPS + open[k];
-                        quarrels[two] = judge.quarrel(open[i], open[k]);
-                        bars[two] = judge.barred(open[i], open[k]);
-                    }
-                }
-            }
+            findQuarrels();
             extend(0, 0, 0, 0);
             return bestSize != NONE;
         }
@@ -1660,8 +1653,28 @@ public final class StampQuarrels {
             }
         }
 
-        private boolean canReach(int rest, int stamps) {
-            return rest >= 0 && stamps >= 0 && stamps < reach.length && (reach[stamps] >> rest & 1L) != 0;
+        /** How many more STAMPS the rest of a FEE needs at least; NONE if it can't be by so many at most. */
+        private int stillNeeded(int rest, int most) {
+            for (int k = 0; k <= most && k < reach.length && rest >= 0; k++) {
+                if ((reach[k] >> rest & 1L) != 0) {
+                    return k;
+                }
+            }
+            return NONE;
+        }
+
+        private void findQuarrels() {
+            leastOfTwo = MOST_QUARREL;
+            for (int i = 0; i < opened; i++) {
+                for (int k = 0; k < opened; k++) {
+                    if (i != k) {
+                        int two = open[i] * MOST_STAMPS + open[k];
+                        quarrels[two] = judge.quarrel(open[i], open[k]);
+                        bars[two] = judge.barred(open[i], open[k]);
+                        leastOfTwo = Math.min(leastOfTwo, quarrels[two]);
+                    }
+                }
+            }
         }
 
         private boolean isBetter(int quarrel, int size) {
@@ -1681,7 +1694,8 @@ public final class StampQuarrels {
             for (int i = 0; i < opened; i++) {
                 int stamp = open[i];
                 int more = sum + worthNow[stamp];
-                if ((used >> stamp & 1) != 0 || !canReach(due - more, MOST_SPOTS - size - 1)) {
+                int needed = stillNeeded(due - more, MOST_SPOTS - size - 1);
+                if ((used >> stamp & 1) != 0 || needed == NONE) {
                     continue;
                 }
                 int quarrelThen = quarrel;
@@ -1692,7 +1706,8 @@ public final class StampQuarrels {
                     }
                     quarrelThen += quarrels[two];
                 }
-                if (isBetter(quarrelThen, size + 1)) {
+                // a row that can't become better is not gone on with
+                if (isBetter(quarrelThen + needed * leastOfTwo, size + 1 + needed)) {
                     line[size] = stamp;
                     extend(size + 1, more, quarrelThen, used | 1 << stamp);
                 }
@@ -1776,9 +1791,13 @@ public final class StampQuarrels {
             }
             // bits 1 .. f
             long wanted = (1L << f + 1) - 2L;
-            int found = NONE;
-            int fewestSorts = state.stamps + 1;
-            for (int bits = 1; bits < 1 << state.stamps; bits++) {
+            int all = (1 << state.stamps) - 1;
+            if ((allSums(all) & wanted) != wanted) {
+                return NONE;
+            }
+            int found = all;
+            int fewestSorts = state.stamps;
+            for (int bits = 1; bits < all; bits++) {
                 int size = Integer.bitCount(bits);
                 if (size < fewestSorts && (allSums(bits) & wanted) == wanted) {
                     found = bits;

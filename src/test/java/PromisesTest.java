@@ -881,6 +881,13 @@ public final class PromisesTest {
         due("25: glue or not", x.pockets(3), 0);
         lawful(x, "quarrels temper-ire");
         due("25: whichever lies left", x.pockets(0), 3);
+        x.stick(0, 0);
+        due("25: the first not in the sheet", x.pockets(1), 100);
+        x = new StampQuarrels();
+        x.stamp(1, 2, 3, 4);
+        x.stamp(1, 2, 5, 4);
+        due("25: one for all of a realm", x.pockets(0), 1);
+        due("25: it is pocket 0", x.pockets(2), 0);
         x = new StampQuarrels();
         due("25: none", x.pockets(0), 0);
         due("25: no such", x.pockets(1), -1);
