@@ -5,7 +5,7 @@ import java.util.Random;
 
 /** Runs of calls by chance on the class and on the model; they must answer alike. */
 public final class ModelTest {
-    private static final int MOST_CALLS = 900;
+    private static final int MOST_CALLS = 512;
 
     private final Random chance;
     private final Texts texts;
@@ -20,7 +20,7 @@ public final class ModelTest {
     }
 
     public static void main(String[] args) {
-        int runs = args.length > 0 ? Integer.parseInt(args[0]) : 400;
+        int runs = args.length > 0 ? Integer.parseInt(args[0]) : 700;
         long from = args.length > 1 ? Long.parseLong(args[1]) : 1;
         for (long seed = from; seed < from + runs; seed++) {
             ModelTest test = new ModelTest(seed);
@@ -50,6 +50,7 @@ public final class ModelTest {
     }
 
     private boolean step() {
+        if (chance.nextInt(25) == 0) return wild();
         int s = chance.nextInt(12) == 0 ? chance.nextInt(14) - 2 : chance.nextInt(10);
         int l = chance.nextInt(12) == 0 ? chance.nextInt(6) - 1 : chance.nextInt(3);
         switch (chance.nextInt(64)) {
@@ -104,6 +105,21 @@ public final class ModelTest {
         }
     }
 
+    /** A call with numbers from far off, and some from near. */
+    private boolean wild() {
+        String[] names = {"stamp", "of", "letter", "at", "asks", "terms", "feed", "end", "force", "stick", "peel", "cancel", "madeUp", "buffers",
+            "exchanged", "pockets", "hear", "beside", "sorts", "fewest", "holds", "kin", "compare", "reigns", "drawn", "image", "back", "count"};
+        int[] takes = {4, 2, 1, 2, 3, 2, 5, 1, 1, 2, 1, 1, 2, 2, 2, 1, 2, 1, 2, 2, 1, 1, 1, 2, 2, 1, 1, 1};
+        int which = chance.nextInt(names.length);
+        int[] a = new int[takes[which]];
+        for (int i = 0; i < a.length; i++) {
+            int c = chance.nextInt(4);
+            int far = c == 0 ? Integer.MIN_VALUE : c == 1 ? Integer.MAX_VALUE : c == 2 ? 1 << chance.nextInt(32) : chance.nextInt();
+            a[i] = chance.nextInt(3) == 0 ? chance.nextInt(5) - 1 : far + chance.nextInt(7) - 3;
+        }
+        return same(names[which], a);
+    }
+
     /** Begins anew, with a few on one letter, and asks for all plans. */
     private boolean scene() {
         if (!same("back", 0) || !same("force", chance.nextInt(1 + (int) model.call("count", 4)) - 1)) return false;
@@ -154,14 +170,7 @@ public final class ModelTest {
         log.add("// " + text);
         String cut = text.length() > 400 ? text.substring(0, 400) : text;
         if (!same("end", 0)) return false;
-        for (int i = 0; i < cut.length(); i += 20) {
-            int[] five = new int[5];
-            for (int k = 0; k < 20; k++) {
-                int c = i + k < cut.length() ? cut.charAt(i + k) & 255 : 32;
-                five[k / 4] |= c << 24 - 8 * (k % 4);
-            }
-            if (!same("feed", five)) return false;
-        }
+        for (int[] five : Tape.fives(cut)) if (!same("feed", five)) return false;
         return same("end", cut.length());
     }
 

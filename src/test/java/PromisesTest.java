@@ -11,18 +11,8 @@ public final class PromisesTest {
         }
     }
 
-    /** Puts a text on the tape, which must be empty. */
     private static StampQuarrels write(StampQuarrels x, String text) {
-        for (int i = 0; i < text.length(); i += 20) {
-            int[] five = new int[5];
-            for (int k = 0; k < 20; k++) {
-                int c = i + k < text.length() ? text.charAt(i + k) & 255 : 0;
-                five[k / 4] |= c << 24 - 8 * (k % 4);
-            }
-            x.feed(five[0], five[1], five[2], five[3], five[4]);
-        }
-        x.end(text.length());
-        return x;
+        return Tape.write(x, text);
     }
 
     private static StampQuarrels lawful(StampQuarrels x, String law) {

@@ -103,13 +103,10 @@ final class Runs {
 
     private void onTape(String line, String text) {
         now.add(new Step(line, false, "end", new int[] {0}, 0L));
-        for (int i = 0; i < text.length(); i += 20) {
-            int[] five = new int[5];
-            for (int k = 0; k < 20; k++) {
-                int c = i + k < text.length() ? text.charAt(i + k) & 255 : 'x';
-                five[k / 4] |= c << 24 - 8 * (k % 4);
-            }
-            now.add(new Step(line, false, "feed", five, (long) i + 20));
+        long length = 0;
+        for (int[] five : Tape.fives(text)) {
+            length += 20;
+            now.add(new Step(line, false, "feed", five, length));
         }
         now.add(new Step(line, false, "end", new int[] {text.length()}, (long) text.length()));
     }
