@@ -575,8 +575,9 @@ public final class StampQuarrels {
      * operands ahead of what joins them.
      */
     private static final class Script {
-        static final long BROKEN = Long.MIN_VALUE;
         static final long LIMIT = 1_000_000_000L;
+        // Beyond the limit, so that no SUM tells it.
+        static final long BROKEN = -2L * LIMIT;
 
         // No TEXT nests deep enough for more operands that wait.
         static final int STACK_ROOM = 64;

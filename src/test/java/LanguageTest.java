@@ -167,6 +167,17 @@ public final class LanguageTest extends TreePathScanner<Void, Void> {
         return super.visitMethodInvocation(tree, nothing);
     }
 
+    /** Constants of the library do not stand in rule 4. */
+    @Override
+    public Void visitMemberSelect(MemberSelectTree tree, Void nothing) {
+        Element named = trees.getElement(getCurrentPath());
+        if (named != null && named.getKind() == ElementKind.FIELD && named.getEnclosingElement() instanceof QualifiedNameable owner
+            && !owner.getQualifiedName().toString().startsWith("StampQuarrels") && !tree.getIdentifier().contentEquals("length")) {
+            fault(tree, "rule 4: " + tree);
+        }
+        return super.visitMemberSelect(tree, nothing);
+    }
+
     @Override
     public Void visitNewClass(NewClassTree tree, Void nothing) {
         if (tree.getClassBody() != null) fault(tree, "rule 2: a class without a name");
