@@ -2,7 +2,7 @@ import java.util.ArrayList;
 import java.util.List;
 
 /**
- * All texts of a few tokens: each that can still go on is gone on with by every token, and the place of the
+ * All texts of a few tokens from two lists: each that can still go on is gone on with by every token, and the place of the
  * FAULT is held against that which Recognizer finds by the document's grammar.
  */
 public final class GrammarTest {
